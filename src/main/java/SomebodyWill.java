@@ -929,8 +929,9 @@ public final class SomebodyWill {
         private static final int NUMBER = 2;
         private static final int SIGN = 3;
         private static final int STRANGE = 4;
+        private static final int LONGEST_NUMBER = 3;
         /** Greater than any NUMBER that may be. */
-        private static final int TOO_LONG = 1000;
+        private static final int TOO_GREAT = 1000;
 
         private final int[] bytes = new int[TAPE];
         private int size;
@@ -938,7 +939,6 @@ public final class SomebodyWill {
         /** The first byte of the TOKEN at hand: the FAULT, where this one can't stand. */
         private int start;
         private int behind;
-        private int number;
         private int passed;
 
         private void append(int b) {
@@ -1015,7 +1015,7 @@ public final class SomebodyWill {
         }
 
         private boolean readOne(Street street) {
-            if (!passPerson(street)) {
+            if (!passNumber(0, street.persons - 1)) {
                 return false;
             }
             int person = passed;
@@ -1031,12 +1031,12 @@ public final class SomebodyWill {
         }
 
         private boolean readTie(Street street) {
-            if (!passPerson(street)) {
+            if (!passNumber(0, street.persons - 1)) {
                 return false;
             }
             int a = passed;
             // one and himself: the second NUMBER is the TOKEN that can't stand
-            if (sort == NUMBER && number == a || !passPerson(street)) {
+            if (sort == NUMBER && numberAtHand() == a || !passNumber(0, street.persons - 1)) {
                 return false;
             }
             int b = passed;
@@ -1052,18 +1052,15 @@ public final class SomebodyWill {
         }
 
         private boolean readMust(Street street) {
-            if (!passPerson(street)) {
+            if (!passNumber(0, street.persons - 1)) {
                 return false;
             }
             street.setMust(passed, true);
             return true;
         }
 
-        private boolean passPerson(Street street) {
-            return passNumber(0, street.persons - 1);
-        }
-
         private boolean passNumber(int least, int greatest) {
+            int number = sort == NUMBER ? numberAtHand() : NONE;
             if (sort != NUMBER || number < least || number > greatest) {
                 return false;
             }
@@ -1084,64 +1081,53 @@ public final class SomebodyWill {
             if (sort != WORD || word.length() != behind - start) {
                 return false;
             }
-            for (int i = 0; i < word.length(); i++) {
-                if (byteAt(start + i) != word.charAt(i)) {
+            for (int i = 0; i < word.length() && start + i < TAPE; i++) {
+                if (bytes[start + i] != word.charAt(i)) {
                     return false;
                 }
             }
             return true;
         }
 
+        private int numberAtHand() {
+            if (behind - start > LONGEST_NUMBER) {
+                return TOO_GREAT;
+            }
+            int number = 0;
+            for (int i = start; i < behind && i < TAPE; i++) {
+                number = 10 * number + bytes[i] - '0';
+            }
+            return number;
+        }
+
         private void advance() {
             start = behind;
-            while (start < size && byteAt(start) == ' ') {
+            while (start < size && start < TAPE && bytes[start] == ' ') {
                 start++;
             }
-            behind = start + 1;
-            int first = byteAt(start);
-            if (start >= size) {
+            behind = start;
+            if (start >= size || start >= TAPE) {
                 sort = END;
-                behind = start;
-            } else if (isLetter(first)) {
-                sort = WORD;
-                passLetters();
-            } else if (isDigit(first)) {
-                sort = NUMBER;
-                passDigits();
-            } else {
-                sort = first == ';' ? SIGN : STRANGE;
+                return;
             }
-        }
-
-        private void passLetters() {
-            while (behind < size && isLetter(byteAt(behind))) {
+            sort = sortOf(bytes[start]);
+            behind++;
+            if (sort == SIGN || sort == STRANGE) {
+                return;
+            }
+            while (behind < size && behind < TAPE && sortOf(bytes[behind]) == sort) {
                 behind++;
             }
         }
 
-        private void passDigits() {
-            while (behind < size && isDigit(byteAt(behind))) {
-                behind++;
+        private static int sortOf(int b) {
+            if (b >= 'a' && b <= 'z') {
+                return WORD;
             }
-            number = 0;
-            for (int i = start; i < behind; i++) {
-                number = 10 * number + byteAt(i) - '0';
+            if (b >= '0' && b <= '9') {
+                return NUMBER;
             }
-            if (behind - start > 3) {
-                number = TOO_LONG;
-            }
-        }
-
-        private int byteAt(int place) {
-            return place >= 0 && place < TAPE ? bytes[place] : NONE;
-        }
-
-        private static boolean isLetter(int b) {
-            return b >= 'a' && b <= 'z';
-        }
-
-        private static boolean isDigit(int b) {
-            return b >= '0' && b <= '9';
+            return b == ';' ? SIGN : STRANGE;
         }
     }
 
@@ -1275,23 +1261,21 @@ public final class SomebodyWill {
             }
         }
 
-        private void joinIfApart(int a, int b) {
-            if (!areNear(a, b)) {
-                join(a, b, 0);
-            }
-        }
-
         private void joinNeighbours() {
-            for (int p = 0; p + 1 < persons; p++) {
-                joinIfApart(p, p + 1);
+            for (int p = 0; p < persons; p++) {
+                int next = p + 1 < persons ? p + 1 : 0;
+                if (!areNear(p, next)) {
+                    join(p, next, 0);
+                }
             }
-            joinIfApart(persons - 1, 0);
         }
 
         private void joinAll() {
             for (int a = 0; a < persons; a++) {
                 for (int b = a + 1; b < persons; b++) {
-                    joinIfApart(a, b);
+                    if (!areNear(a, b)) {
+                        join(a, b, 0);
+                    }
                 }
             }
         }
@@ -1347,22 +1331,23 @@ public final class SomebodyWill {
             return brings - cost[person];
         }
 
-        private int needOf(int person, int doing) {
-            if (isMust(person)) {
-                return 0;
-            }
+        /** What he GAINS more by doing, if he doesn't, or by not doing, if he does. */
+        private int gainByChange(int person, int doing) {
             int byDoing = edge(person, doing);
-            int byChange = isIn(person, doing) ? -byDoing : byDoing;
-            return byChange > 0 ? byChange : 0;
+            return isIn(person, doing) ? -byDoing : byDoing;
         }
 
         private boolean wouldChange(int person, int doing) {
-            return needOf(person, doing) > 0;
+            return !isMust(person) && gainByChange(person, doing) > 0;
+        }
+
+        private int needOf(int person, int doing) {
+            return wouldChange(person, doing) ? gainByChange(person, doing) : 0;
         }
 
         private int firstRestless(int doing) {
             for (int p = 0; p < persons; p++) {
-                if (wouldChange(p, doing) || isMust(p) && !isIn(p, doing)) {
+                if (isMust(p) ? !isIn(p, doing) : gainByChange(p, doing) > 0) {
                     return p;
                 }
             }
