@@ -241,7 +241,7 @@ public final class SomebodyWill {
             case 4:
                 return at.wayKind[person];
             case 5:
-                return at.pricesOf(person);
+                return at.pays[person];
             default:
                 return refuse(BAD);
         }
@@ -1140,6 +1140,8 @@ public final class SomebodyWill {
         private final int[] wayTold = new int[PEOPLE];
         /** The PRICE of two at 12 times the one, and the other; 0 where they aren't NEAR. */
         private final int[] price = new int[PEOPLE * PEOPLE];
+        /** Of each PERSON the PRICES of his ties together: every GAIN asks for them. */
+        private final int[] pays = new int[PEOPLE];
         private int persons;
         private int more;
         private int musts;
@@ -1154,6 +1156,7 @@ public final class SomebodyWill {
             Arrays.fill(wayKind, NONE);
             Arrays.fill(wayTold, 0);
             Arrays.fill(price, 0);
+            Arrays.fill(pays, 0);
         }
 
         private void become(Street other) {
@@ -1166,6 +1169,7 @@ public final class SomebodyWill {
             System.arraycopy(other.wayKind, 0, wayKind, 0, PEOPLE);
             System.arraycopy(other.wayTold, 0, wayTold, 0, PEOPLE);
             System.arraycopy(other.price, 0, price, 0, PEOPLE * PEOPLE);
+            System.arraycopy(other.pays, 0, pays, 0, PEOPLE);
         }
 
         // PERSONS and sets of them
@@ -1247,8 +1251,8 @@ public final class SomebodyWill {
             if (hasPair(a, b)) {
                 near[a] |= 1 << b;
                 near[b] |= 1 << a;
-                price[PEOPLE * a + b] = at;
-                price[PEOPLE * b + a] = at;
+                priceAt(a, b, at);
+                priceAt(b, a, at);
             }
         }
 
@@ -1256,9 +1260,15 @@ public final class SomebodyWill {
             if (hasPair(a, b)) {
                 near[a] &= ~(1 << b);
                 near[b] &= ~(1 << a);
-                price[PEOPLE * a + b] = 0;
-                price[PEOPLE * b + a] = 0;
+                priceAt(a, b, 0);
+                priceAt(b, a, 0);
             }
+        }
+
+        private void priceAt(int a, int b, int at) {
+            int place = PEOPLE * a + b;
+            pays[a] += at - price[place];
+            price[place] = at;
         }
 
         private void joinNeighbours() {
@@ -1288,18 +1298,10 @@ public final class SomebodyWill {
             return ends / 2;
         }
 
-        private int pricesOf(int person) {
-            int sum = 0;
-            for (int b = 0; b < persons; b++) {
-                sum += price[PEOPLE * person + b];
-            }
-            return sum;
-        }
-
         private int prices() {
             int sum = 0;
             for (int p = 0; p < persons; p++) {
-                sum += pricesOf(p);
+                sum += pays[p];
             }
             return sum / 2;
         }
@@ -1310,7 +1312,7 @@ public final class SomebodyWill {
             int helpers = Integer.bitCount((near[person] | 1 << person) & doing);
             int gained = helpers > 0 ? worth[person] + more * (helpers - 1) : 0;
             int spent = isIn(person, doing) ? cost[person] : 0;
-            return gained - spent - pricesOf(person);
+            return gained - spent - pays[person];
         }
 
         private int goodOf(int doing) {
