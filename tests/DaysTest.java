@@ -47,6 +47,8 @@ public final class DaysTest {
         Due.is("and 2 not on day 999", x.doers(0, 999), 10);
         Due.is("and 2 on day 996", x.doers(0, 996), 10);
         Due.is("and 2 on day 990", x.doers(0, 990), 14);
+        x.alter(0, 1, 0, 8);
+        Due.is("1 gains 1 more by it", x.doers(0, 0), 10);
         x.alter(0, 1, 0, 9);
         Due.is("1 doesn't gain more any more", x.doers(0, 0), 8);
         x.must(0, 1, true);

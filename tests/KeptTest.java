@@ -154,6 +154,15 @@ public final class KeptTest {
         y.begin(0);
         y.back();
         Due.is("no search again", y.step(1), -5);
+        SomebodyWill v = Due.with("people 1");
+        v.way(0, 2, 300);
+        v.take(0, 0, 0);
+        v.image();
+        v.way(0, 2, 400);
+        v.take(0, 0, 0);
+        Due.is("by the later way", v.light(0, 1), 600000);
+        v.back();
+        Due.is("by the way that he had", v.light(0, 1), 700000);
         SomebodyWill z = new SomebodyWill();
         z.image();
         Due.read(z, "people 2");

@@ -293,7 +293,9 @@ public final class ModelTest {
         }
         longestRing = Math.max(longestRing, ring);
         Due.is("go" + told, x.go(0, asked), ring > 0 ? -5 : set);
+        x.ring(0, below(1 << n));
         Due.is("turns" + told, x.turns(0, asked), changes);
+        x.go(0, below(1 << n));
         Due.is("ring" + told, x.ring(0, asked), ring);
     }
 

@@ -85,6 +85,8 @@ public final class PayTest {
         Due.refuses(x, -2, "no set, though its lowest bits are", () -> x.rota(0, 1, 2));
         x.set(1, 1, 0);
         Due.refuses(x, -2, "no set below", () -> x.rota(0, 1, 3));
+        x.set(1, 0, 4096);
+        Due.refuses(x, -2, "no set on the first day", () -> x.rota(0, 1, 1));
         Due.row(x, 2, 0, 127, 128);
         Due.is("bytes", x.rota(0, 2, 1), 0);
         Due.refuses(x, -2, "a byte below nought", () -> x.rota(0, 2, 2));

@@ -5,6 +5,8 @@ public final class TapeTest {
         fullTape();
         reading();
         faults();
+        noughts();
+        nothingStays();
         laterCounts();
         fourStreets();
         Due.end();
@@ -153,6 +155,64 @@ public final class TapeTest {
         fault("people 3;all/", 12);
         fault("people 3;all:", 12);
         fault("people 3;cost 4!;ring 5", 15);
+        fault("people 3;allz", 9);
+        fault("people 3;alla", 9);
+        fault("people 3;cost;all", 13);
+        fault("people 3;worth;all", 14);
+        fault("people 3;more;all", 13);
+        fault("people 3;one;all", 12);
+        fault("people 3;one 1;all", 14);
+        fault("people 3;one 1 cost;all", 19);
+        fault("people 3;one 1 cost 1 worth;all", 27);
+        fault("people 3;tie;all", 12);
+        fault("people 3;tie 0 1 price;all", 22);
+        fault("people 3;must;all", 13);
+    }
+
+    private static void noughts() {
+        SomebodyWill x = Due.with("people 3;cost 5;worth 5;more 5;one 0 cost 0 worth 0;must 0;tie 0 1 price 0;tie 1 2 price 9",
+            "people 3;cost 9;cost 0;worth 9;worth 0;more 9;more 0;tie 1 0 price 2;tie 0 1 price 0");
+        Due.is("cost of one", x.personOf(0, 0, 0), 0);
+        Due.is("worth of one", x.personOf(0, 0, 1), 0);
+        Due.is("musts", x.streetOf(0, 3), 1);
+        Due.is("prices", x.streetOf(0, 4), 9);
+        Due.is("ties", x.streetOf(0, 1), 2);
+        Due.is("cost of all", x.personOf(1, 1, 0), 0);
+        Due.is("worth of all", x.personOf(1, 1, 1), 0);
+        Due.is("more", x.streetOf(1, 2), 0);
+        Due.is("prices of two", x.streetOf(1, 4), 0);
+    }
+
+    /** Nothing of a text with a FAULT, nor of a STREET that is gone by back(), stays in the next STREET. */
+    private static void nothingStays() {
+        String full = "people 12;cost 5;worth 6;more 3;all;tie 0 1 price 5;tie 9 10 price 4;must 3;must 11";
+        SomebodyWill x = new SomebodyWill();
+        Due.is("with a fault", Due.read(x, full + "?"), -20 - full.length());
+        blank(x, Due.read(x, "people 12"));
+        x = new SomebodyWill();
+        x.image();
+        Due.is("a street", Due.read(x, full), 0);
+        x.way(0, 2, 500);
+        for (int p = 0; p < 12; p++) {
+            x.take(0, p, 0);
+        }
+        x.back();
+        blank(x, Due.read(x, "people 12"));
+    }
+
+    private static void blank(SomebodyWill x, int street) {
+        Due.is("the next street", street, 0);
+        int[] due = {12, 0, 0, 0, 0};
+        for (int what = 0; what < 5; what++) {
+            Due.is("streetOf(0, " + what + ")", x.streetOf(0, what), due[what]);
+        }
+        for (int p = 0; p < 12; p++) {
+            for (int what = 0; what < 6; what++) {
+                Due.is("personOf(0, " + p + ", " + what + ")", x.personOf(0, p, what), what == 4 ? -1 : 0);
+            }
+        }
+        x.tie(0, 0, 1, 0);
+        Due.is("a new tie's price", x.personOf(0, 0, 5), 0);
     }
 
     private static void laterCounts() {

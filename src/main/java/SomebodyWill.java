@@ -1360,14 +1360,9 @@ public final class SomebodyWill {
             return firstRestless(doing) == NONE;
         }
 
-        /** The next set that has all that MUST; a loop over these goes up till sets(). */
-        private int setAfter(int set) {
-            return (set + 1) | musts;
-        }
-
         private int rests() {
             int found = 0;
-            for (int set = musts; set < sets(); set = setAfter(set)) {
+            for (int set = 0; set < sets(); set++) {
                 if (isRest(set)) {
                     found++;
                 }
@@ -1377,7 +1372,7 @@ public final class SomebodyWill {
 
         private int restNumber(int i) {
             int found = 0;
-            for (int set = musts; set < sets(); set = setAfter(set)) {
+            for (int set = 0; set < sets(); set++) {
                 if (isRest(set)) {
                     if (found == i) {
                         return set;
@@ -1389,7 +1384,7 @@ public final class SomebodyWill {
         }
 
         private boolean hasRestBelow(int bound) {
-            for (int set = musts; set < sets(); set = setAfter(set)) {
+            for (int set = 0; set < sets(); set++) {
                 if (Integer.bitCount(set) < bound && isRest(set)) {
                     return true;
                 }
@@ -1401,8 +1396,8 @@ public final class SomebodyWill {
         private int choose(int by, boolean restsAlone) {
             int chosen = NONE;
             int greatest = 0;
-            for (int set = musts; set < sets(); set = setAfter(set)) {
-                if (restsAlone && !isRest(set)) {
+            for (int set = 0; set < sets(); set++) {
+                if (restsAlone ? !isRest(set) : !hasMustsIn(set)) {
                     continue;
                 }
                 int value = valueOf(set, by);
