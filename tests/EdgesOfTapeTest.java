@@ -14,6 +14,7 @@ public final class EdgesOfTapeTest {
         emptyTapes();
         tokens();
         strangeBytes();
+        eachByte();
         numbers();
         people();
         costsAndWorths();
@@ -150,6 +151,32 @@ public final class EdgesOfTapeTest {
         faults("WORDS: behind a NUMBER", "people 3a", 8);
         faults("WORDS: the great ones are none", "People 3", 0);
         reads("NUMBERS (digits): 0 and 9", "people 10;cost 90;worth 09", "personOf(0, 9, 0) = 90", "personOf(0, 9, 1) = 9");
+    }
+
+    private static void readsWith(String words, String text, int b, String due) {
+        Script.run(words + ": " + b, "tape '" + text + "'", "feed(" + b + ", 1)", "street() = " + due);
+    }
+
+    /** Each byte behind a WORD, and behind a NUMBER: these go on with it, or it is a TOKEN of its own, or none. */
+    private static void eachByte() {
+        for (int b = 0; b < 256; b++) {
+            if (b >= 'a' && b <= 'z') {
+                readsWith("WORDS (a .. z)", "people 3;all", b, "FAULT 9");
+                readsWith("WORDS (a .. z)", "people 3;cost 1", b, "FAULT 15");
+            } else if (b >= '0' && b <= '9') {
+                readsWith("NUMBERS (digits)", "people 3;all", b, "FAULT 12");
+                readsWith("NUMBERS (digits)", "people 3;cost 1", b, "0");
+            } else if (b == ';') {
+                readsWith("the SIGN ;", "people 3;all", b, "FAULT 13");
+                readsWith("the SIGN ;", "people 3;cost 1", b, "FAULT 16");
+            } else if (b == ' ') {
+                readsWith("blanks (32)", "people 3;all", b, "0");
+                readsWith("blanks (32)", "people 3;cost 1", b, "0");
+            } else {
+                readsWith("a byte that begins none", "people 3;all", b, "FAULT 12");
+                readsWith("a byte that begins none", "people 3;cost 1", b, "FAULT 15");
+            }
+        }
     }
 
     private static void numbers() {

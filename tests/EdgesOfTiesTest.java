@@ -110,6 +110,8 @@ public final class EdgesOfTiesTest {
         Script.run("39: who both GAIN more: not as much", Script.behind(TWELVE, "adds(0, 3, 3) = 1", "adds(0, 3, 4) = NONE", "adds(0, 3, 5) = NONE"));
         Script.run("39: who both GAIN more: not one alone", Script.behind(TWELVE, "adds(0, 1, 0) = NONE", "adds(0, 2, 0) = NONE",
             "alter(0, 1, 1, 99)", "adds(0, 1, 0) = NONE"));
+        Script.run("39: who both GAIN more: not one who GAINS less", Script.behind(TWELVE, "adds(0, 1, 3) = NONE", "adds(0, 2, 3) = NONE",
+            "adds(0, 2048, 3) = NONE"));
         Script.run("39: who both GAIN more: by MORE", "read 'people 3;worth 5;more 9;tie 1 2' = 0", "adds(0, 5, 8) = 2", "adds(0, 5, 9) = NONE",
             "adds(0, 3, 4) = 1", "adds(0, 3, 8) = 1", "adds(0, 3, 9) = NONE");
         Script.run("39: at the greatest PRICE", "read 'people 3;worth 10;more 9;tie 1 2;tie 0 2' = 0", "adds(0, 6, 9) = NONE", "adds(0, 3, 9) = NONE",

@@ -11,7 +11,6 @@ public final class RestsTest {
         chosen();
         below();
         noRest();
-        refused();
         Due.end();
     }
 
@@ -126,33 +125,5 @@ public final class RestsTest {
         for (int set = 0; set < 4; set++) {
             Due.is("judge(0, " + set + ")", x.judge(0, set), new int[] {0, 1, 1, 0}[set]);
         }
-    }
-
-    private static void refused() {
-        SomebodyWill x = Due.with(STAR);
-        long[] ahead = Due.look(x);
-        int[][] bad = {{-1, 0, 0}, {1, 0, 0}, {0, -1, 0}, {0, 4, 0}, {0, 0, -1}, {0, 0, 16}, {0, 0, Integer.MIN_VALUE}};
-        for (int[] b : bad) {
-            Due.refusesAs(x, -1000002, -2, "gain(" + b[0] + ", " + b[1] + ", " + b[2] + ")", () -> x.gain(b[0], b[1], b[2]));
-        }
-        int[][] sets = {{-1, 0}, {1, 0}, {0, -1}, {0, 16}};
-        for (int[] b : sets) {
-            Due.refusesAs(x, -1000002, -2, "total(" + b[0] + ", " + b[1] + ")", () -> x.total(b[0], b[1]));
-            Due.refuses(x, -2, "judge(" + b[0] + ", " + b[1] + ")", () -> x.judge(b[0], b[1]));
-        }
-        for (int street : new int[] {-1, 1, 4}) {
-            Due.refuses(x, -2, "count", () -> x.count(street));
-            Due.refuses(x, -2, "rest", () -> x.rest(street, 0));
-            Due.refuses(x, -2, "fewest", () -> x.fewest(street));
-            Due.refuses(x, -2, "most", () -> x.most(street));
-            Due.refuses(x, -2, "cheap", () -> x.cheap(street));
-            Due.refuses(x, -2, "best", () -> x.best(street));
-            Due.refuses(x, -2, "good", () -> x.good(street));
-            Due.refuses(x, -2, "lost", () -> x.lost(street));
-            Due.refuses(x, -2, "beside", () -> x.beside(street));
-        }
-        Due.refuses(x, -2, "rest(0, -1)", () -> x.rest(0, -1));
-        Due.refuses(x, -2, "rest(0, 2)", () -> x.rest(0, 2));
-        Due.same("behind what was refused", ahead, Due.look(x));
     }
 }
