@@ -32,6 +32,7 @@ public final class EdgesOfRestsTest {
         inTurn();
         changes();
         rings();
+        ringsByDoers();
         Due.end();
     }
 
@@ -152,8 +153,10 @@ public final class EdgesOfRestsTest {
             "alter(0, 2, 0, 2)", "alter(0, 3, 0, 2)", "alter(0, 4, 0, 1)", "must(0, 4, true)", "count(0) = 3", "rest(0, 0) = 17",
             "rest(0, 1) = 18", "rest(0, 2) = 28", "fewest(0) = 17", "most(0) = 28", "cheap(0) = 28", "best(0) = 28", "alter(0, 2, 0, 8)",
             "cheap(0) = 18", "best(0) = 18", "fewest(0) = 17", "most(0) = 28", "alter(0, 0, 0, 4)", "best(0) = 17", "cheap(0) = 17");
-        Script.run("24: the fewest above a lesser set with more", Script.behind(STAR, "must(0, 3, true)", "come(0, 0, 0, 0) = 4",
+        Script.run("24: the fewest below a set with more", Script.behind(STAR, "must(0, 3, true)", "come(0, 0, 0, 0) = 4",
             "count(0) = 2", "rest(0, 0) = 14", "rest(0, 1) = 30", "fewest(0) = 14", "most(0) = 30", "cheap(0) = 14", "best(0) = 14"));
+        Script.run("24: the fewest above a lesser set with more: a star about the last", "read 'people 4;cost 2;worth 7;tie 3 0;tie 3 1;tie 3 2' = 0",
+            "count(0) = 2", "rest(0, 0) = 7", "rest(0, 1) = 8", "fewest(0) = 8", "most(0) = 7", "cheap(0) = 8", "best(0) = 8");
         Script.run("25: the most above a lesser set with fewer", Script.behind(STAR, "fewest(0) = 1", "most(0) = 14", "alter(0, 0, 0, 6)",
             "alter(0, 1, 0, 1)", "alter(0, 2, 0, 1)", "alter(0, 3, 0, 1)", "cheap(0) = 14", "best(0) = 14", "fewest(0) = 1",
             "alter(0, 0, 0, 3)", "cheap(0) = 1", "best(0) = 1"));
@@ -174,6 +177,10 @@ public final class EdgesOfRestsTest {
         // RESTS 5, 9, 10 tell 16, 14, 16, the greatest GOOD (15) is 20
         Script.run("29, 30: below the GOOD that is no REST's", "read 'people 4;cost 3;worth 5;more 2;tie 0 1;tie 1 2;tie 2 3' = 0", "good(0) = 15",
             "total(0, 15) = 20", "total(0, 5) = 16", "total(0, 9) = 14", "lost(0) = 4", "beside(0) = 6");
+        // RESTS 1 (it costs 5, tells 22) and 6 (it costs 6, tells 24), the greatest GOOD (7) is 28
+        Script.run("29, 30: the best REST is not the cheapest nor that with the fewest",
+            "read 'people 3;cost 3;worth 9;more 3;one 0 cost 5 worth 9;tie 0 1;tie 0 2' = 0", "count(0) = 2", "fewest(0) = 1", "cheap(0) = 1",
+            "best(0) = 6", "most(0) = 6", "total(0, 1) = 22", "total(0, 6) = 24", "good(0) = 7", "total(0, 7) = 28", "lost(0) = 4", "beside(0) = 6");
         Script.run("29, 30: of one that is not the good one", "read 'people 2;cost 5;worth 4;all' = 0", "lost(0) = 3", "beside(0) = 3");
     }
 
@@ -197,6 +204,26 @@ public final class EdgesOfRestsTest {
         Script.run("32: (or till a RING is closed)", Script.behind(CHASE, "turns(0, 0) = 4", "turns(0, 3) = 4", "turns(0, 1) = 5",
             "turns(0, 2) = 5", "status(15) = 0"));
         Script.run("32: all twelve change", "read 'people 12;cost 1;worth 3' = 0", "turns(0, 0) = 12", "go(0, 0) = 4095", "turns(0, 4095) = 0");
+    }
+
+    /** 0 and 1 chase each other till 2 does, who neither would do nor stop. */
+    private static final String[] THREE = {
+        "read 'people 3;more 5;one 0 cost 7 worth 9;one 1 cost 3 worth 2;one 2 cost 5 worth 5;tie 0 1;tie 1 2' = 0"};
+    private static final String[] LAST_TWO = {"read 'people 12;more 5;one 10 cost 7 worth 9;one 11 cost 3 worth 2;tie 10 11' = 0"};
+
+    private static void ringsByDoers() {
+        Script.run("31 to 33: from told DOERS it ends, from others there is a RING", Script.behind(THREE, "go(0, 0) = STATE", "go(0, 3) = STATE",
+            "ring(0, 0) = 2", "ring(0, 3) = 2", "turns(0, 0) = 4", "go(0, 4) = 6", "ring(0, 4) = 0", "turns(0, 4) = 3", "go(0, 7) = 6", "ring(0, 7) = 0",
+            "turns(0, 7) = 1"));
+        Script.run("31 to 33: and all that MUST, told or not", Script.behind(THREE, "must(0, 2, true)", "go(0, 0) = 6", "ring(0, 0) = 0", "turns(0, 0) = 3",
+            "go(0, 4) = 6", "ring(0, 4) = 0", "turns(0, 4) = 3", "go(0, 3) = 6", "ring(0, 3) = 0", "turns(0, 3) = 1"));
+        List<String> lines = new ArrayList<>(List.of(LAST_TWO));
+        for (int set : new int[] {0, 1, 63, 64, 511, 512, 960, 1023}) {
+            lines.addAll(List.of("ring(0, " + set + ") = 2", "turns(0, " + set + ") = 4", "ring(0, " + (set + 3072) + ") = 2",
+                "turns(0, " + (set + 3072) + ") = 4", "turns(0, " + (set + 1024) + ") = 5", "turns(0, " + (set + 2048) + ") = 5"));
+        }
+        lines.addAll(List.of("go(0, 0) = STATE", "go(0, 4095) = STATE"));
+        Script.run("31 to 33: a RING of the last two of 12", lines);
     }
 
     private static void rings() {

@@ -94,7 +94,8 @@ public final class EdgesOfTapeTest {
         Script.run("11: nothing of a text with a FAULT stays",
             "read 'people 12;cost 5;worth 6;more 3;all;tie 0 1 price 5;must 3;must 11?' = FAULT 66", "status(0) = 0",
             "read 'people 12' = 0", "streetOf(0, 1) = 0", "streetOf(0, 2) = 0", "streetOf(0, 3) = 0", "streetOf(0, 4) = 0",
-            "personOf(0, 0, 0) = 0", "personOf(0, 11, 1) = 0", "personOf(0, 1, 2) = 0", "personOf(0, 1, 5) = 0");
+            "personOf(0, 0, 0) = 0", "personOf(0, 11, 1) = 0", "personOf(0, 1, 2) = 0", "personOf(0, 1, 5) = 0", "tie(0, 0, 1, 3) = NONE",
+            "personOf(0, 0, 5) = 3", "personOf(0, 1, 5) = 3", "streetOf(0, 4) = 3");
     }
 
     private static void reads(String words, String text, String... lines) {

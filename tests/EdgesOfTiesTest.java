@@ -82,6 +82,9 @@ public final class EdgesOfTiesTest {
     }
 
     private static void cutsJustAsMuch() {
+        // 0 has 2 for nothing, and 2 has 0: 1 helps him still
+        Script.run("38: without their tie, with all others", "read 'people 3;worth 9;more 5;tie 0 1;tie 0 2 price 3' = 0", "cuts(0, 3) = 2",
+            "tie(0, 0, 1, 4)", "cuts(0, 3) = 2", "tie(0, 0, 1, 5)", "cuts(0, 3) = 2", "tie(0, 0, 1, 6)", "cuts(0, 3) = 1");
         Script.run("38: of whom one GAINS more: not as much", "read 'people 2;worth 9;more 3;tie 0 1 price 3' = 0", "cuts(0, 3) = NONE",
             "cuts(0, 1) = 1", "cuts(0, 2) = 1", "cuts(0, 0) = 1", "tie(0, 0, 1, 4)", "cuts(0, 3) = 1", "tie(0, 0, 1, 2)", "cuts(0, 3) = NONE",
             "tie(0, 0, 1, 9)", "alter(0, 0, 1, 9)", "cuts(0, 2) = 1");
@@ -135,6 +138,9 @@ public final class EdgesOfTiesTest {
             "streetOf(0, 4) = 4", "streetOf(0, 1) = 2", "personOf(0, 2, 2) = 0");
         Script.run("40: NONE: by MORE all would do still", Script.behind(TWELVE, "fewest(0) = 4095", "less(0) = NONE", "alter(0, 0, 0, 9)",
             "fewest(0) = 4094", "less(0) = NONE"));
+        // 0 alone, and 1 with 2, who cost less: by their tie there were one DOER alone again
+        Script.run("40: NONE: fewer than the fewest, not than the cheapest", "read 'people 3;cost 3;worth 9;one 0 cost 7 worth 9;tie 0 1;tie 0 2' = 0",
+            "fewest(0) = 1", "cheap(0) = 6", "best(0) = 6", "less(0) = NONE");
         Script.run("40: the last two of 12", "read 'people 12;cost 99;one 10 cost 3 worth 9;one 11 cost 3 worth 9;all' = 0", "less(0) = NONE",
             "tie(0, 10, 11, -1)", "fewest(0) = 3072", "less(0) = 1011");
         Script.run("40: (at PRICE 0)", "read 'people 2;cost 3;worth 5' = 0", "less(0) = 1", "tie(0, 0, 1, 9)", "tie(0, 0, 1, -1)", "less(0) = 1",
@@ -166,6 +172,8 @@ public final class EdgesOfTiesTest {
             "pay(0, 3) = 6", "few(0, 3) = 2", "must(0, 0, true)", "pay(0, 3) = 3", "few(0, 3) = 1"));
         Script.run("42: one that need not be paid or fined at all", "read 'people 2;cost 5;worth 5' = 0", "pay(0, 0) = 0", "few(0, 0) = 0",
             "pay(0, 3) = 0", "few(0, 3) = 0");
+        Script.run("43: of one that needs 1", "read 'people 2;cost 5;worth 5;one 1 cost 5 worth 6' = 0", "pay(0, 0) = 1", "few(0, 0) = 1",
+            "need(0, 1, 0) = 1", "few(0, 2) = 0");
         Script.run("42: of twelve", Script.behind(TWELVE, "pay(0, 0) = 72", "few(0, 0) = 12", "pay(0, 4095) = 0", "few(0, 4095) = 0"));
     }
 
