@@ -111,12 +111,13 @@ public final class EdgesOfKeptTest {
         Script.run("52: all four STREETS", "read 'people 1;cost 1' = 0", "read 'people 2;cost 2' = 1", "read 'people 3;cost 3' = 2",
             "read 'people 4;cost 4;more 5' = 3", "image() = 1", "alter(0, 0, 0, 9)", "alter(1, 1, 0, 9)", "alter(2, 2, 0, 9)", "alter(3, 3, 0, 9)",
             "back() = 1", "personOf(0, 0, 0) = 1", "personOf(1, 1, 0) = 2", "personOf(2, 2, 0) = 3", "personOf(3, 3, 0) = 4", "streetOf(3, 2) = 5");
-        Script.run("52: all of twelve PERSONS", "read 'people 12;ring;one 11 cost 4 worth 5;tie 11 9 price 6;must 10' = 0", "way(0, 2, 300)",
+        Script.run("52: all of twelve PERSONS", "read 'people 12;ring;one 11 cost 4 worth 5;tie 11 9 price 6;tie 10 11 price 7;must 10' = 0", "way(0, 2, 300)",
             "way(1, 3, 0)", "take(0, 11, 0)", "image() = 1", "alter(0, 11, 0, 9)", "alter(0, 11, 1, 9)", "tie(0, 11, 9, 8)", "tie(0, 11, 8, 7)",
-            "tie(0, 11, 0, -1)", "must(0, 10, false)", "take(0, 11, 1)", "take(0, 9, 0)", "back() = 1", "personOf(0, 11, 0) = 4",
-            "personOf(0, 11, 1) = 5", "personOf(0, 11, 2) = 1537", "personOf(0, 9, 2) = 3328", "personOf(0, 11, 5) = 6", "personOf(0, 9, 5) = 6",
+            "tie(0, 11, 10, 2)", "tie(0, 11, 0, -1)", "must(0, 10, false)", "take(0, 11, 1)", "take(0, 9, 0)", "back() = 1", "personOf(0, 11, 0) = 4",
+            "personOf(0, 11, 1) = 5", "personOf(0, 11, 2) = 1537", "personOf(0, 9, 2) = 3328", "personOf(0, 11, 5) = 13", "personOf(0, 9, 5) = 6",
             "personOf(0, 8, 5) = 0", "personOf(0, 11, 4) = 2", "personOf(0, 9, 4) = NONE", "light(0, 1) = 0", "must(0, 10, false) = 1",
-            "light(0, 1) = 700000", "tie(0, 9, 11, 0) = 6", "tie(0, 8, 11, 0) = NONE", "tie(0, 11, 0, 0) = 0");
+            "light(0, 1) = 700000", "tie(0, 9, 11, 5) = 6", "tie(0, 11, 9, 0) = 5", "tie(0, 11, 10, 0) = 7", "tie(0, 8, 11, 0) = NONE",
+            "tie(0, 11, 0, 0) = 0", "personOf(0, 11, 5) = 0", "personOf(0, 10, 5) = 0", "personOf(0, 9, 5) = 0");
         Script.run("52: KNOWN, SEED", "know(0, 3)", "know(5, 20)", "seed(77)", "image() = 1", "know(0, 4)", "know(5, 1)", "know(2, 2)", "seed(78)",
             "back() = 1", "status(2) = 77", "know(0, 0) = 3", "know(5, 0) = 20", "know(2, 0) = 0");
         Script.run("52: the SEED of DRAWS", Script.behind(STAR, "way(0, 2, 500)", "take(0, 0, 0)", "image() = 1", "doers(0, 0) = 0",
