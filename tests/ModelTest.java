@@ -1,365 +1,323 @@
-import java.util.ArrayList;
+import java.lang.reflect.InvocationTargetException;
+import java.lang.reflect.Method;
+import java.util.HashMap;
+import java.util.Map;
+import java.util.TreeSet;
 
-/** Promises 19 to 33, 38 to 44 and 50 against the document's own words, on many streets. */
+/**
+ * All promises at once: long runs of any calls, and all that can be asked of one STREET, each answer against
+ * that of the model.
+ */
 public final class ModelTest {
-    private static int seed = 20261119;
-
-    private int n;
-    private int more;
-    private int[] cost;
-    private int[] worth;
-    private boolean[][] near;
-    private int[][] price;
-    private boolean[] must;
-    private final ArrayList<Integer> rests = new ArrayList<>();
+    /** What later calls answer is free. */
+    private static final int CALLS = 512;
+    private static final int RUNS = 240;
+    private static final int CROWDS = 600;
+    private static final int[] ODD = {
+        Integer.MIN_VALUE, -1000001, -100, -21, -2, -1, 0, 1, 2, 3, 4, 5, 6, 7, 8, 9, 10, 11, 12, 13, 20, 21, 39, 40, 41, 98, 99, 100,
+        101, 110, 160, 199, 255, 500, 501, 901, 908, 909, 998, 999, 1000, 1001, 2048, 4095, 4096, 65535, 65536, 1000000, 1000001,
+        Integer.MAX_VALUE
+    };
+    /** The calls, some more than once as they are wanted more often; a sign for what each argument is, as number() has it. */
+    private static final String[] MADE = {
+        "row hSr", "set hrv", "set hpv", "set hpv", "copy hhppp", "element hp", "holds h", "way hkk", "way h2k", "way h4t", "way h5h",
+        "says hk", "says hk", "feed v4", "wipe", "streetOf sw", "personOf snw", "personOf snw", "alter snbc", "alter snbm", "tie snnx",
+        "tie snnx", "must snf", "must snf", "take snh", "take snh", "come sdcc", "gain snd", "total sd", "judge sd", "judge sd",
+        "count s", "rest si", "fewest s", "most s", "cheap s", "best s", "good s", "lost s", "beside s", "go sd", "go sd", "turns sd",
+        "ring sd", "lot cc5", "lot mm5", "nobody cm5", "know 5r", "know 5r", "bar cm", "bar mc", "cuts sd", "adds sdx", "less s",
+        "need snd", "pay sd", "few sd", "rota shq", "rota shq", "doers sy", "doers sy", "light so", "late sl", "seed v", "begin s", "step e",
+        "step q", "search w", "search w", "image", "back", "status u", "status u"
+    };
+    /** The first does if he is alone, the second if he isn't: neither rests. */
+    private static final String CHASE = "more 5;tie 0 1;one 0 cost 6 worth 9;one 1 cost 3 worth 0";
+    private static final Map<String, Method> FACE = methods(SomebodyWill.class);
+    private static final Map<String, Method> MODEL = methods(Model.class);
+    /** Which calls were refused by which number, or answered otherwise. */
+    private static final TreeSet<String> met = new TreeSet<>();
 
     private static int longestRing = 0;
-    private static int ringsWithTail = 0;
-    private static int without = 0;
-    private static final int[] found = new int[6];
+    private static int ringsThatComeLater = 0;
+    private static int streetsWithoutRest = 0;
+
+    private final SomebodyWill x = new SomebodyWill();
+    private final Model model = new Model();
+    private final int run;
+    private int seed;
+    private int calls;
+
+    private ModelTest(int run) {
+        this.run = run;
+        seed = run * 7919 + 17;
+    }
 
     public static void main(String[] args) {
-        for (int run = 0; run < 500; run++) {
-            new ModelTest().compare(run);
+        for (int run = 0; run < RUNS; run++) {
+            new ModelTest(run).anyCalls();
         }
-        Due.is("rings of more than two rounds are met", longestRing > 2 ? 1 : 0, 1);
-        Due.is("rings that come later are met", ringsWithTail > 0 ? 1 : 0, 1);
-        Due.is("streets without a rest are met", without > 3 ? 1 : 0, 1);
-        for (int i = 0; i < found.length; i++) {
-            Due.is("kind " + i + " of answers is met", found[i] > 0 ? 1 : 0, 1);
+        for (int run = 0; run < CROWDS; run++) {
+            new ModelTest(run).oneCrowd();
         }
+        all();
+        Due.is("RINGS of more than two rounds are met", longestRing > 2 ? 1 : 0, 1);
+        Due.is("RINGS that come later are met", ringsThatComeLater > 0 ? 1 : 0, 1);
+        Due.is("STREETS without a REST are met", streetsWithoutRest > 3 ? 1 : 0, 1);
         Due.end();
     }
 
-    private static int below(int k) {
+    private static Map<String, Method> methods(Class<?> c) {
+        Map<String, Method> methods = new HashMap<>();
+        for (Method m : c.getDeclaredMethods()) {
+            if (!java.lang.reflect.Modifier.isPrivate(m.getModifiers()) && !m.isSynthetic()) {
+                methods.put(m.getName(), m);
+            }
+        }
+        return methods;
+    }
+
+    /** Each call has answered, and each that the document refuses by a number was refused by it. */
+    private static void all() {
+        for (String name : FACE.keySet()) {
+            Due.is(name + " has answered", met.contains(name + " answers") ? 1 : 0, 1);
+        }
+        String bad = "row set copy way says feed street streetOf personOf alter tie must take come gain total judge count rest fewest most"
+            + " cheap best good lost beside go turns ring lot nobody know bar cuts adds less need pay few rota doers light late begin step"
+            + " search";
+        refused(bad, -2);
+        refused("set copy way says take rota", -3);
+        refused("set copy way says take rota", -4);
+        refused("go less pay few step search back", -5);
+        refused("feed street come", -6);
+    }
+
+    private static void refused(String names, int number) {
+        for (String name : names.split(" ")) {
+            Due.is(name + " was refused by " + number, met.contains(name + " " + number) ? 1 : 0, 1);
+        }
+    }
+
+    private int below(int k) {
         seed = seed * 1103515245 + 12345;
         return (seed >>> 16) % k;
     }
 
-    private SomebodyWill make(int run) {
-        n = run % 50 == 49 ? 9 : 1 + below(7);
-        more = below(10);
-        cost = new int[n];
-        worth = new int[n];
-        near = new boolean[n][n];
-        price = new int[n][n];
-        must = new boolean[n];
-        SomebodyWill x = Due.with("people " + n + ";more " + more);
+    private void anyCalls() {
+        int street = 0;
+        while (calls < CALLS - 8) {
+            if (street < 1 + run % 4 && below(12) == 0 || below(90) == 0) {
+                read();
+                street++;
+            } else {
+                String[] made = MADE[below(MADE.length)].split(" ");
+                make(made[0], made.length > 1 ? made[1] : "");
+            }
+        }
+        for (int what = 12; what <= 16; what++) {
+            call("status", what);
+        }
+    }
+
+    // ---- all that can be asked of one STREET
+
+    private void oneCrowd() {
+        int n = run % 50 == 49 ? 9 : run % 3 == 0 ? 4 + below(4) : 1 + below(7);
+        makeCrowd(n);
+        int rests = (int) call("count", 0);
+        streetsWithoutRest += rests == 0 ? 1 : 0;
+        for (int i = Math.max(0, rests - 4); i <= rests; i++) {
+            call("rest", 0, i);
+        }
+        for (String name : "fewest most cheap best good lost beside less begin".split(" ")) {
+            call(name, 0);
+        }
+        call("step", 999);
+        while (calls < CALLS - 60) {
+            askOf(n, below(1 << n));
+        }
+    }
+
+    private void makeCrowd(int n) {
+        feed(new StringBuilder("people " + n + ";more " + below(10)));
+        call("street");
+        int more = model.streetOf(0, 2);
         int least = below(3) == 0 ? 0 : below(9);
         for (int p = 0; p < n; p++) {
-            cost[p] = least + below(9);
-            worth[p] = below(14);
-            if (run % 3 == 0) {
-                makeContrary(p);
-            }
-            x.alter(0, p, 0, cost[p]);
-            x.alter(0, p, 1, worth[p]);
-            if (below(run % 3 == 0 ? 20 : 9) == 0) {
-                must[p] = true;
-                x.must(0, p, true);
-            }
+            boolean isContrary = run % 3 == 0;
+            boolean follows = below(2) == 0;
+            // one who does if somebody near does, or one who does if nobody near does: of these RINGS are made
+            call("alter", 0, p, 0, isContrary ? Math.max(0, follows ? more - 1 : more + 1) : least + below(9));
+            call("alter", 0, p, 1, isContrary ? Math.max(0, follows ? more - 2 : more + 3) : below(14));
+            call("must", 0, p, below(isContrary ? 20 : 9) == 0);
         }
         int often = 1 + below(4);
         int dear = below(2) == 0 ? 1 : 4;
         for (int a = 0; a < n; a++) {
             for (int b = 0; b < a; b++) {
-                if (below(5) < often) {
-                    near[a][b] = near[b][a] = true;
-                    price[a][b] = price[b][a] = below(dear);
-                    x.tie(0, a, b, price[a][b]);
-                }
+                call("tie", 0, a, b, below(5) < often ? below(dear) : -1);
             }
         }
-        return x;
     }
 
-    /** One who does if nobody near does, or one who does if somebody near does: of these RINGS are made. */
-    private void makeContrary(int p) {
-        boolean follows = below(2) == 0;
-        cost[p] = follows ? more - 1 : more + 1;
-        worth[p] = follows ? more - 2 : more + 3;
-        cost[p] = Math.max(0, cost[p]);
-        worth[p] = Math.max(0, worth[p]);
-    }
-
-    private static boolean in(int p, int set) {
-        return (set >> p) % 2 == 1;
-    }
-
-    private static int size(int set) {
-        int k = 0;
-        for (int p = 0; p < 12; p++) {
-            k += in(p, set) ? 1 : 0;
-        }
-        return k;
-    }
-
-    private int musts() {
-        int set = 0;
+    private void askOf(int n, int set) {
         for (int p = 0; p < n; p++) {
-            set += must[p] ? 1 << p : 0;
+            call("gain", 0, p, set);
+            call("need", 0, p, set);
         }
-        return set;
-    }
-
-    private boolean hasMusts(int set) {
-        for (int p = 0; p < n; p++) {
-            if (must[p] && !in(p, set)) {
-                return false;
-            }
+        for (String name : "total judge pay few turns go ring cuts".split(" ")) {
+            call(name, 0, set);
         }
-        return true;
-    }
-
-    private int gain(int p, int set) {
-        int helpers = 0;
-        int prices = 0;
-        for (int q = 0; q < n; q++) {
-            if ((q == p || near[p][q]) && in(q, set)) {
-                helpers++;
-            }
-            if (near[p][q]) {
-                prices += price[p][q];
-            }
-        }
-        int sum = helpers > 0 ? worth[p] + more * (helpers - 1) : 0;
-        return sum - (in(p, set) ? cost[p] : 0) - prices;
-    }
-
-    private int good(int set) {
-        int sum = 0;
-        for (int p = 0; p < n; p++) {
-            sum += gain(p, set);
-        }
-        return sum;
-    }
-
-    private int change(int p, int set) {
-        return in(p, set) ? set - (1 << p) : set + (1 << p);
-    }
-
-    private boolean would(int p, int set) {
-        return !must[p] && gain(p, change(p, set)) > gain(p, set);
-    }
-
-    private int judge(int set) {
-        for (int p = 0; p < n; p++) {
-            if (would(p, set) || must[p] && !in(p, set)) {
-                return p;
-            }
-        }
-        return -1;
-    }
-
-    private void findRests() {
-        rests.clear();
-        for (int set = 0; set < 1 << n; set++) {
-            if (judge(set) == -1) {
-                rests.add(set);
-            }
-        }
-    }
-
-    private int cost(int set) {
-        int sum = 0;
-        for (int p = 0; p < n; p++) {
-            sum += in(p, set) ? cost[p] : 0;
-        }
-        return sum;
-    }
-
-    private int fewest() {
-        int chosen = -1;
-        for (int set : rests) {
-            chosen = chosen < 0 || size(set) < size(chosen) ? set : chosen;
-        }
-        return chosen;
-    }
-
-    private void compare(int run) {
-        SomebodyWill x = make(run);
-        String told = " of run " + run;
-        findRests();
-        Due.is("count" + told, x.count(0), rests.size());
-        for (int i = 0; i < rests.size() && i < 20; i++) {
-            Due.is("rest " + i + told, x.rest(0, i), rests.get(i));
-        }
-        Due.is("rest behind the last" + told, x.rest(0, rests.size()), -2);
-        chosen(x, told);
-        Due.is("begin" + told, x.begin(0), 1 << n);
-        Due.is("step" + told, x.step(999), rests.size());
-        Due.is("less" + told, x.less(0), less());
-        for (int k = 0; k < 8; k++) {
-            int set = below(1 << n);
-            of(x, set, told + ", set " + set);
-        }
-    }
-
-    private void chosen(SomebodyWill x, String told) {
-        int most = -1;
-        int cheap = -1;
-        int best = -1;
-        int worst = -1;
-        for (int set : rests) {
-            most = most < 0 || size(set) > size(most) ? set : most;
-            cheap = cheap < 0 || cost(set) < cost(cheap) ? set : cheap;
-            best = best < 0 || good(set) > good(best) ? set : best;
-            worst = worst < 0 || good(set) < good(worst) ? set : worst;
-        }
-        int good = -1;
-        for (int set = 0; set < 1 << n; set++) {
-            if (hasMusts(set) && (good < 0 || good(set) > good(good))) {
-                good = set;
-            }
-        }
-        Due.is("fewest" + told, x.fewest(0), fewest());
-        Due.is("most" + told, x.most(0), most);
-        Due.is("cheap" + told, x.cheap(0), cheap);
-        Due.is("best" + told, x.best(0), best);
-        Due.is("good" + told, x.good(0), good);
-        Due.is("lost" + told, x.lost(0), best < 0 ? -1 : good(good) - good(best));
-        Due.is("beside" + told, x.beside(0), best < 0 ? -1 : good(good) - good(worst));
-        without += best < 0 ? 1 : 0;
-    }
-
-    private int less() {
-        if (rests.isEmpty()) {
-            return -5;
-        }
-        int now = size(fewest());
-        int answer = -1;
-        for (int a = 0; a < n && answer < 0; a++) {
-            for (int b = a + 1; b < n && answer < 0; b++) {
-                if (!near[a][b]) {
-                    near[a][b] = near[b][a] = true;
-                    findRests();
-                    near[a][b] = near[b][a] = false;
-                    answer = !rests.isEmpty() && size(fewest()) < now ? 100 * a + b : -1;
-                }
-            }
-        }
-        findRests();
-        found[0] += answer >= 0 ? 1 : 0;
-        return answer;
-    }
-
-    private void of(SomebodyWill x, int set, String told) {
-        Due.is("total" + told, x.total(0, set), good(set));
-        Due.is("judge" + told, x.judge(0, set), judge(set));
-        int pay = 0;
-        int few = 0;
-        for (int p = 0; p < n; p++) {
-            Due.is("gain of " + p + told, x.gain(0, p, set), gain(p, set));
-            int need = would(p, set) ? gain(p, change(p, set)) - gain(p, set) : 0;
-            Due.is("need of " + p + told, x.need(0, p, set), need);
-            pay += need;
-            few += need > 0 ? 1 : 0;
-        }
-        Due.is("pay" + told, x.pay(0, set), hasMusts(set) ? pay : -5);
-        Due.is("few" + told, x.few(0, set), hasMusts(set) ? few : -5);
-        found[1] += pay;
-        inTurn(x, set | musts(), set, told);
-        int at = below(10);
-        Due.is("cuts" + told, x.cuts(0, set), cuts(set));
-        Due.is("adds at " + at + told, x.adds(0, set, at), adds(set, at));
-        rota(x, told);
-    }
-
-    private void inTurn(SomebodyWill x, int from, int asked, String told) {
-        ArrayList<Integer> behind = new ArrayList<>();
-        int set = from;
-        int changes = 0;
-        int ring = 0;
-        behind.add(set);
-        while (true) {
-            boolean changed = false;
-            for (int p = 0; p < n; p++) {
-                if (would(p, set)) {
-                    set = change(p, set);
-                    changes++;
-                    changed = true;
-                }
-            }
-            if (!changed) {
-                break;
-            }
-            int earlier = behind.indexOf(set);
-            if (earlier >= 0) {
-                ring = behind.size() - earlier;
-                ringsWithTail += earlier > 0 ? 1 : 0;
-                break;
-            }
-            behind.add(set);
-        }
-        longestRing = Math.max(longestRing, ring);
-        Due.is("go" + told, x.go(0, asked), ring > 0 ? -5 : set);
-        x.ring(0, below(1 << n));
-        Due.is("turns" + told, x.turns(0, asked), changes);
-        x.go(0, below(1 << n));
-        Due.is("ring" + told, x.ring(0, asked), ring);
-    }
-
-    private int cuts(int set) {
-        for (int a = 0; a < n; a++) {
-            for (int b = a + 1; b < n; b++) {
-                if (near[a][b]) {
-                    int ga = gain(a, set);
-                    int gb = gain(b, set);
-                    near[a][b] = near[b][a] = false;
-                    boolean gains = gain(a, set) > ga || gain(b, set) > gb;
-                    near[a][b] = near[b][a] = true;
-                    if (gains) {
-                        found[2]++;
-                        return 100 * a + b;
-                    }
-                }
-            }
-        }
-        return -1;
-    }
-
-    private int adds(int set, int at) {
-        for (int a = 0; a < n; a++) {
-            for (int b = a + 1; b < n; b++) {
-                if (!near[a][b]) {
-                    int ga = gain(a, set);
-                    int gb = gain(b, set);
-                    int ahead = price[a][b];
-                    near[a][b] = near[b][a] = true;
-                    price[a][b] = price[b][a] = at;
-                    boolean gain = gain(a, set) > ga && gain(b, set) > gb;
-                    near[a][b] = near[b][a] = false;
-                    price[a][b] = price[b][a] = ahead;
-                    if (gain) {
-                        found[3]++;
-                        return 100 * a + b;
-                    }
-                }
-            }
-        }
-        return -1;
-    }
-
-    private void rota(SomebodyWill x, String told) {
+        call("adds", 0, set, below(10));
+        longestRing = Math.max(longestRing, model.ring(0, set));
+        ringsThatComeLater += model.aheadOfRing(0, set) > 0 ? 1 : 0;
         int days = 1 + below(4);
-        int[] sets = new int[days];
-        x.row(0, 1, days);
+        call("row", 0, 1, days);
         for (int day = 0; day < days; day++) {
-            sets[day] = below(1 << n);
-            x.set(0, day, sets[day]);
+            call("set", 0, day, (long) below(1 << n));
         }
-        int answer = -1;
-        for (int p = 0; p < n && answer < 0; p++) {
-            int with = 0;
-            int apart = 0;
-            for (int set : sets) {
-                int doing = set | musts();
-                with += gain(p, doing);
-                apart += gain(p, in(p, doing) ? change(p, doing) : doing);
+        call("rota", 0, 0, days);
+    }
+
+    // ---- any calls
+
+    private void make(String name, String told) {
+        Object[] arguments = new Object[told.length()];
+        int street = 0;
+        for (int i = 0; i < arguments.length; i++) {
+            Class<?> type = FACE.get(name).getParameterTypes()[i];
+            long v = below(25) == 0 ? ODD[below(ODD.length)] : number(told.charAt(i), street);
+            street = i == 0 ? (int) v : street;
+            arguments[i] = type == boolean.class ? (Object) (v == 1) : type == long.class ? (Object) v : (Object) (int) v;
+        }
+        call(name, arguments);
+    }
+
+    private long call(String name, Object... arguments) {
+        calls++;
+        try {
+            long got = ((Number) FACE.get(name).invoke(x, arguments)).longValue();
+            long want = ((Number) MODEL.get(name).invoke(model, arguments)).longValue();
+            Due.is("run " + run + ", call " + calls + ", " + name + java.util.Arrays.toString(arguments), got, want);
+            meet(name, want);
+            return want;
+        } catch (InvocationTargetException | IllegalAccessException thrown) {
+            Due.is("run " + run + ", call " + calls + ", " + name + " threw " + thrown.getCause(), 1, 0);
+            return 0;
+        }
+    }
+
+    private static void meet(String name, long answer) {
+        long number = name.equals("street") && answer <= -20 ? -2 : answer < -1000 ? answer + 1000000 : answer;
+        met.add(name + (number <= -2 && number >= -6 ? " " + number : " answers"));
+    }
+
+    // ---- numbers that may be, mostly
+
+    private int persons(int street) {
+        return street >= 0 && street < model.status(0) ? model.streetOf(street, 0) : 3;
+    }
+
+    private long number(char what, int street) {
+        switch (what) {
+            case 'h': return below(8);
+            case 'S': return below(5);
+            case 'r': return below(21);
+            case 'p': return below(14);
+            case 'q': return 1 + below(9);
+            case 'i': return below(4);
+            case 'v': return below(2) == 0 ? below(64) : (long) below(65536) << below(50);
+            case 'k': return below(7);
+            case 't': return 100 * (1 + below(9)) + below(5);
+            case 'w': return below(6);
+            case 'n': return below(persons(street));
+            case 'd': return below(1 << persons(street));
+            case 'b': return below(2);
+            case 'c': return below(14);
+            case 'm': return 1 + below(99);
+            case 'x': return below(11) - 1;
+            case 'f': return below(4) == 0 ? 1 : 0;
+            case 'y': return below(1000);
+            case 'o': return 1 + below(99);
+            case 'l': return below(2) == 0 ? below(65536) : 900000 + below(65536);
+            case 'e': return 1 + below(999);
+            case 'u': return below(18);
+            case 's': return below(Math.max(1, model.status(0)));
+            default: return what - '0' - below(2) * below(what - '0' + 1);
+        }
+    }
+
+    // ---- texts
+
+    private void read() {
+        StringBuilder text = new StringBuilder();
+        int n = run % 60 == 59 ? 12 : below(40) == 0 ? 7 + below(6) : 1 + below(6);
+        text.append("people").append(blank()).append(n);
+        for (int i = below(9); i > 0; i--) {
+            text.append(blank()).append(';').append(blank()).append(statement(n));
+        }
+        while (below(5) == 0) {
+            spoil(text);
+        }
+        while (text.length() > 0 && text.charAt(text.length() - 1) == ' ' && below(2) == 0) {
+            text.setLength(text.length() - 1);
+        }
+        feed(text);
+        call("street");
+    }
+
+    private String blank() {
+        return " ".repeat(below(3) == 0 ? below(3) : 1);
+    }
+
+    private String number(int k) {
+        int v = below(60) == 0 ? k + below(9) : below(k);
+        return (below(20) == 0 ? "0".repeat(1 + below(3)) : "") + v;
+    }
+
+    private String statement(int n) {
+        int greatest = below(4) == 0 ? 100 : 12;
+        switch (below(11)) {
+            case 0: return "cost " + number(greatest);
+            case 1: return "worth " + number(greatest);
+            case 2: return "more " + number(10);
+            case 3: return "one " + number(n) + " cost " + number(greatest) + " worth" + number(greatest);
+            case 4: return "must " + number(n);
+            case 5: return "tie " + number(n) + " " + number(n);
+            case 6: return "tie " + number(n) + " " + number(n) + "price " + number(10);
+            case 7: return "tie 0 " + Math.max(1, n - 1);
+            case 8: return n < 3 && below(4) > 0 ? "all" : "ring";
+            case 9: return CHASE;
+            default: return "all";
+        }
+    }
+
+    private void spoil(StringBuilder text) {
+        int at = below(text.length());
+        switch (below(4)) {
+            case 0:
+                text.setCharAt(at, (char) below(256));
+                break;
+            case 1:
+                text.deleteCharAt(at);
+                text.append(' ');
+                break;
+            case 2:
+                text.insert(at, ";a 1 zpeople".charAt(below(12)));
+                break;
+            default:
+                text.setLength(Math.max(1, at));
+                break;
+        }
+    }
+
+    private void feed(StringBuilder text) {
+        int i = 0;
+        while (i < text.length() && calls < CALLS - 8) {
+            int n = Math.min(text.length() - i, below(6) == 0 ? 1 + below(4) : 4);
+            int v = below(3);
+            for (int k = 0; k < n; k++) {
+                v = v << 8 | text.charAt(i + k);
             }
-            answer = !must[p] && apart > with ? p : -1;
+            call("feed", v, n);
+            i += n;
         }
-        found[answer < 0 ? 4 : 5]++;
-        Due.is("rota" + told, x.rota(0, 0, days), answer);
     }
 }
